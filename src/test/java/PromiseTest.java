@@ -1,60 +1,6 @@
 /** Each promise of the document by hand: ordinary inputs, the edges that it names, wrong inputs. */
-public final class PromiseTest {
-    private static final int BAD = -1, NOT = -2, FULL = -3, NONE = -4, NULL = -11, CAST = -12, INDEX = -13, SIZE = -14;
-    private static final int[] WRONG = {-1, Integer.MIN_VALUE, Integer.MAX_VALUE};
-    private static int wrong = 0;
-    private static int asked = 0;
-    private static int promise = 0;
-
-    private static void due(String call, long got, long want) {
-        asked++;
-        if (got != want) {
-            wrong++;
-            System.out.println("promise " + promise + ": " + call + " answered " + got + ", due is " + want);
-        }
-    }
-
-    private static void type(BesideQuotes x, String text) {
-        for (int from = 0; from < text.length(); from += 8) {
-            int to = Math.min(text.length(), from + 8);
-            long w = 0;
-            for (int k = from; k < to; k++) {
-                w = w << 8 | text.charAt(k);
-            }
-            due("type " + text, x.type(w, to - from), to);
-        }
-    }
-
-    private static int books(BesideQuotes x, String text) {
-        type(x, text);
-        return x.books();
-    }
-
-    private static int hall(BesideQuotes x, String text) {
-        type(x, text);
-        return x.hall();
-    }
-
-    private static BesideQuotes made(String books, String hall) {
-        BesideQuotes x = new BesideQuotes();
-        if (books.length() > 0) {
-            due("books " + books, books(x, books), books.split(";").length);
-        }
-        due("hall " + hall, hall(x, hall), hall.length());
-        return x;
-    }
-
-    private static void dueHall(BesideQuotes x, String want) {
-        StringBuilder got = new StringBuilder();
-        for (int place = 0; x.at(place) >= 0; place++) {
-            got.append(x.at(place));
-        }
-        asked++;
-        if (!got.toString().equals(want)) {
-            wrong++;
-            System.out.println("promise " + promise + ": the hall is " + got + ", due is " + want);
-        }
-    }
+public final class PromiseTest extends Due {
+    private static final int[] WRONG = {-1, LEAST, MOST};
 
     private static void newObject() {
         BesideQuotes x = new BesideQuotes();
@@ -659,15 +605,6 @@ public final class PromiseTest {
         dueHall(x, "21");
     }
 
-    private static BesideQuotes withSheet(String books, String hall, int lane, long... items) {
-        BesideQuotes x = made(books, hall);
-        due("sheet", x.sheet(0, lane, items.length), items.length);
-        for (int i = 0; i < items.length; i++) {
-            due("item", x.item(0, lane, i, items[i]), 1);
-        }
-        return x;
-    }
-
     private static void walk() {
         BesideQuotes x = withSheet("1;2;3;4;9", "0123", 1, 3, 3, 0, 2, 4, -1, 1);
         due("to the end", x.walk(0, 1, 0, 1), 10);
@@ -831,7 +768,7 @@ public final class PromiseTest {
     }
 
     private static void first(int number) {
-        promise = number;
+        by(number, "by hand");
         switch (number) {
             case 1: newObject(); break;
             case 2: book(); break;
@@ -877,9 +814,6 @@ public final class PromiseTest {
         for (int number = 1; number <= 31; number++) {
             first(number);
         }
-        System.out.println(asked + " answers, " + wrong + " not as due");
-        if (wrong != 0) {
-            System.exit(1);
-        }
+        end();
     }
 }
