@@ -82,12 +82,23 @@ public final class EdgeTest extends Due {
         due("last and first", x.hate(7, 0, false), 1);
         due("first and last", x.hate(0, 7, false), 0);
         due("no pair", x.count(3), 0);
+        by(5, "PROP: none is at first");
+        BesideQuotes one = new BesideQuotes();
+        one.book(1);
+        due("the first one", one.prop(0, false), 0);
         by(5, "A BOOK is a PROP: whether it was");
         due("the last one", x.prop(7, true), 0);
         due("again", x.prop(7, true), 1);
         by(5, "or not: whether it was");
         due("not", x.prop(7, false), 1);
         due("nor again", x.prop(7, false), 0);
+        by(5, "it may TOUCH all others from then on");
+        due("not yet", x.touch(7, 2), 0);
+        due("prop", x.prop(7, true), 0);
+        due("now", x.touch(7, 2), 1);
+        by(5, "or not: not any more");
+        due("prop", x.prop(7, false), 1);
+        due("not any more", x.touch(2, 7), 0);
     }
 
     private static void thickRule() {
@@ -313,6 +324,10 @@ public final class EdgeTest extends Due {
         due("the end", fault("1:7;"), -24);
         due("itself", fault("1:7;1:1"), -26);
         due("twice", fault("1:77"), -23);
+        by(0, "FAULTS: 8 and 9 never come");
+        due("8", fault("1;1:08"), -25);
+        due("9", fault("1:9;1"), -22);
+        due("behind eight", fault("1;1;1;1;1;1;1;1:08"), -20 - 17);
         by(0, "FAULTS: those that were told are not those of the TEXT");
         due("2 was there", fault("1;1:2"), -24);
     }
@@ -628,10 +643,19 @@ public final class EdgeTest extends Due {
         BesideQuotes chain = made(CHAIN, "");
         due("how many", chain.forged(255, -1), 0);
         due("the row", forgedOf(chain, 255), "01234567");
+        by(20, "a row of just these, each once, whatever was asked ahead");
+        BesideQuotes props = made(PROPS, "");
+        due("all", forgedOf(props, 255), "01234567");
+        due("some", forgedOf(props, 0x98), "347");
         by(20, "the fewest, though another row is first");
         BesideQuotes star = made("1;1;1;1:012", "");
         due("how many", star.forged(15, -1), 1);
         due("the row", forgedOf(star, 15), "0132");
+        by(20, "the fewest, though no row with so few begins with the least BOOK");
+        BesideQuotes midst = made("1;1:0;1:0;1:0", "");
+        due("how many", midst.forged(15, -1), 1);
+        due("the row", forgedOf(midst, 15), "1023");
+        due("of some", forgedOf(midst, 13), "203");
         by(20, "no two that HATE one another are side by side, though it takes more");
         BesideQuotes hated = made(CHAIN, "");
         hated.hate(0, 1, true);
