@@ -516,6 +516,9 @@ public final class EdgeTest extends Due {
         due("in a chain round", ruled(RING, CHAIN, "").cut(255), 2);
         by(17, "TOUCHES within the rest: a book beyond the set does not join");
         due("2 is not of it", made("1;1;1:01", "").cut(3), 0);
+        by(17, "parts hang together by TOUCHES, by the last BOOK and by the first, too");
+        due("0 7 1", made("1;1;1;1;1;1;1;1:01", "").cut(0x83), NONE);
+        due("6 0 7", made("1:67;1;1;1;1;1;1;1", "").cut(0xC1), NONE);
         by(17, "most books in a CUT");
         // three that each touch five leaves: the rest falls to five
         due("three", made("1;1;1;1:012;1:012;1:012;1:012;1:012", "").cut(255), 7);
