@@ -418,11 +418,11 @@ public final class BesideQuotes {
 
     private int changeHall(int set) {
         counts.askRowsOf(set);
-        if (counts.total() == 0) {
-            return NONE;
+        // counting is cheap; the search would try in vain once for each number of moved books
+        int moved = counts.total() == 0 ? NONE : moves.fewest(set);
+        if (moved != NONE) {
+            library.takeHall(moves.row, Integer.bitCount(set));
         }
-        int moved = moves.fewest(set);
-        library.takeHall(moves.row, Integer.bitCount(set));
         return moved;
     }
 
@@ -1152,17 +1152,18 @@ public final class BesideQuotes {
             allowed = 0;
         }
 
-        /** There is a lawful row of the set: the caller has seen to that. */
+        /** How many are moved at least, by the row that is held then; NONE if no row of the set is lawful. */
         int fewest(int ofSet) {
             set = ofSet;
             stood = library.hallSet() & ofSet;
             size = Integer.bitCount(ofSet);
-            for (allowed = 0; allowed < MOST_BOOKS; allowed++) {
+            for (int moved = 0; moved < MOST_BOOKS; moved++) {
+                allowed = moved;
                 if (search(0, 0, 0)) {
-                    break;
+                    return moved;
                 }
             }
-            return allowed;
+            return NONE;
         }
 
         /** Books are tried in their order, so that the first row that is found is the first one. */
